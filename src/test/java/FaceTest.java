@@ -16,8 +16,8 @@ public final class FaceTest {
         + "K_IMPLIES 20 K_ALL 21 K_EXISTS 22 ERR_ARG -1 ERR_FULL -2 ERR_KIND -3 ERR_STACK -4 ERR_TYPE -5 ERR_BUSY -6 "
         + "ERR_NOT_FORMULA -7 ERR_FREE_VAR -8 ERR_TOO_BIG -9 MAX_ATOMS 4 MAX_RELATIONS 4 MAX_TOKENS 32 MAX_VARS 3 "
         + "MAX_FREE 12";
-    private static final String METHODS = "int add(int, int);int arityOf(int);int atoms();int bound(int, int, int, int);"
-        + "int boundOf(int, int, int);int declare(int, int);int depth();int freeCount();int has(int, int, int);"
+    private static final String METHODS = "int add(int, int);int arityOf(int);int atoms();"
+        + "int bound(int, int, int, int);int boundOf(int, int, int);int declare(int, int);int depth();int freeCount();int has(int, int, int);"
         + "int instanceSize(int);int solve();int stackEntry(int);int status();int token(int);int tokenCount();"
         + "void clearFormula();";
 
@@ -68,5 +68,9 @@ public final class FaceTest {
             }
         }
         DUE.is("methods", String.join("", got), METHODS);
+        for (Method method : RelationFinder.class.getDeclaredMethods()) {
+            boolean publicName = METHODS.contains(" " + method.getName() + "(");
+            DUE.is(method.getName() + " is public", Modifier.isPublic(method.getModifiers()), publicName);
+        }
     }
 }

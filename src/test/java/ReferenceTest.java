@@ -116,7 +116,7 @@ public final class ReferenceTest {
         if (below(3) == 0) {
             declare(below(4), 1 + below(2));
         }
-        int most = below(8) == 0 ? 12 : 7;
+        int most = below(30) == 0 ? 12 : 7;
         while (ref.freeCount() > most) {
             bound(below(4), below(4), below(4), 1 + below(2));
         }

@@ -12,6 +12,7 @@ public final class SemanticsTest {
         checkQuantifiers();
         checkInnerBindingWins();
         checkOrderOfQuantifiers();
+        checkQuantifiersOverFourAtoms();
         checkThreeVariables();
         DUE.end();
     }
@@ -54,6 +55,8 @@ public final class SemanticsTest {
         DUE.is("PRODUCT", valueOf(2, 1, 0, 1, 1, 9, 0), "01 02 11 12");
         DUE.is("PRODUCT the other way", valueOf(2, 1, 1, 1, 0, 9, 0), "10 11 20 21");
         DUE.is("TRANSPOSE", valueOf(2, 1, 2, 10, 0), "10 11 21");
+        DUE.is("TRANSPOSE of a product", valueOf(2, 1, 1, 1, 0, 9, 0, 10, 0), "01 02 11 12");
+        DUE.is("TRANSPOSE twice", valueOf(2, 1, 1, 3, 0, 9, 0, 10, 0, 10, 0), "10 11 12 20 21 22");
         DUE.is("JOIN binary binary", valueOf(2, 1, 2, 1, 2, 8, 0), "01 02 11 12");
         DUE.is("JOIN with the transpose", valueOf(2, 1, 2, 1, 2, 10, 0, 8, 0), "00 01 10 11");
         DUE.is("JOIN of the transpose", valueOf(2, 1, 2, 10, 0, 1, 2, 8, 0), "11 12 21 22");
@@ -169,16 +172,18 @@ public final class SemanticsTest {
     }
 
     private static void checkInnerBindingWins() {
-        // all 0: (0 in r0 implies (some 0: 0 in r1))
-        DUE.is("the inner 0 is its own", isTrue(2, 0, 1, 0, 12, 0, 2, 0, 1, 1, 12, 0, 22, 0, 20, 0, 21, 0), true);
-        // some 0: ((all 0: 0 in UNIV) and 0 = r1)
-        DUE.is("the outer 0 after the inner", isTrue(2, 0, 3, 0, 12, 0, 21, 0, 2, 0, 1, 1, 13, 0, 18, 0, 22, 0), true);
-        // all 0: ((some 0: 0 = r1) and 0 in r0)
-        DUE.is("the outer 0 ranges over all", isTrue(2, 0, 1, 1, 13, 0, 22, 0, 2, 0, 1, 0, 12, 0, 18, 0, 21, 0), false);
-        // all 0: some 0: 0 = r1
-        DUE.is("only the inner binds", isTrue(2, 0, 1, 1, 13, 0, 22, 0, 21, 0), true);
-        // some 0: all 0: 0 = r1
-        DUE.is("only the inner binds", isTrue(2, 0, 1, 1, 13, 0, 21, 0, 22, 0), false);
+        for (int v = 0; v < 3; v++) {
+            // all v: (v in r0 implies (some v: v in r1))
+            DUE.is("the inner v is its own", isTrue(2, v, 1, 0, 12, 0, 2, v, 1, 1, 12, 0, 22, v, 20, 0, 21, v), true);
+            // some v: ((all v: v in UNIV) and v = r1)
+            DUE.is("v after an inner v", isTrue(2, v, 3, 0, 12, 0, 21, v, 2, v, 1, 1, 13, 0, 18, 0, 22, v), true);
+            // all v: ((some v: v = r1) and v in r0)
+            DUE.is("v ranges over all", isTrue(2, v, 1, 1, 13, 0, 22, v, 2, v, 1, 0, 12, 0, 18, 0, 21, v), false);
+            // all v: some v: v = r1
+            DUE.is("only the inner binds", isTrue(2, v, 1, 1, 13, 0, 22, v, 21, v), true);
+            // some v: all v: v = r1
+            DUE.is("only the inner binds", isTrue(2, v, 1, 1, 13, 0, 21, v, 22, v), false);
+        }
     }
 
     private static void checkOrderOfQuantifiers() {
@@ -193,6 +198,34 @@ public final class SemanticsTest {
                     DUE.is("some u: all v", isTrue(2, u, 2, v, 9, 0, 1, 2, 12, 0, 17, 0, 21, v, 22, u), true);
                 }
             }
+        }
+    }
+
+    private static boolean isTrueOfCycle(int... formula) {
+        RelationFinder x = new RelationFinder(4, 1);
+        x.declare(0, 2);
+        Calls.fix(x, 0, 0, 1, 1, 2, 2, 3, 3, 0);
+        Calls.feed(x, formula);
+        return x.solve() == RelationFinder.SAT;
+    }
+
+    /** The greatest universe, where no environment is without meaning. */
+    private static void checkQuantifiersOverFourAtoms() {
+        for (int u = 0; u < 3; u++) {
+            int v = (u + 1) % 3;
+            int w = (u + 2) % 3;
+            DUE.is("each has a next", isTrueOfCycle(2, u, 2, v, 9, 0, 1, 0, 12, 0, 22, v, 21, u), true);
+            DUE.is("one is all's next", isTrueOfCycle(2, u, 2, v, 9, 0, 1, 0, 12, 0, 21, u, 22, v), false);
+            DUE.is("each has one that is not its next",
+                isTrueOfCycle(2, u, 2, v, 9, 0, 1, 0, 12, 0, 17, 0, 22, v, 21, u), true);
+            // all u, w: some v: u -> v in r and (v -> w in r or not v -> w in r . r . r)
+            DUE.is("no one is three steps after its next",
+                isTrueOfCycle(2, u, 2, v, 9, 0, 1, 0, 12, 0, 2, v, 2, w, 9, 0, 1, 0, 12, 0, 2, v, 2, w, 9, 0,
+                    1, 0, 1, 0, 8, 0, 1, 0, 8, 0, 12, 0, 17, 0, 19, 0, 18, 0, 22, v, 21, w, 21, u), false);
+            // all u, w: some v: u -> v in r and v -> w in closure of r
+            DUE.is("all are reached",
+                isTrueOfCycle(2, u, 2, v, 9, 0, 1, 0, 12, 0, 2, v, 2, w, 9, 0, 1, 0, 11, 0, 12, 0,
+                    18, 0, 22, v, 21, w, 21, u), true);
         }
     }
 
