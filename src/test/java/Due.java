@@ -5,18 +5,39 @@ final class Due {
     private final String test;
     private int compared = 0;
     private int wrong = 0;
+    private String sentence = "";
+    private int sentences = 0;
+    private int comparedBefore = 0;
 
     Due(String test) {
         this.test = test;
     }
 
+    /** The document's words that the next answers are compared for; they are told with a wrong answer. */
+    void sentence(String words) {
+        endSentence();
+        sentence = words;
+        sentences++;
+        comparedBefore = compared;
+    }
+
+    private void endSentence() {
+        if (sentences > 0 && compared == comparedBefore) {
+            tell("no answer was compared");
+        }
+    }
+
     void is(String call, Object got, Object want) {
         compared++;
         if (!got.equals(want)) {
-            wrong++;
-            if (wrong <= MOST_TOLD) {
-                System.out.println(test + ": " + call + " answered " + got + ", due is " + want);
-            }
+            tell(call + " answered " + got + ", due is " + want);
+        }
+    }
+
+    private void tell(String fault) {
+        wrong++;
+        if (wrong <= MOST_TOLD) {
+            System.out.println(test + ": " + fault + (sentences == 0 ? "" : "\n    by: " + sentence));
         }
     }
 
@@ -25,7 +46,9 @@ final class Due {
     }
 
     void end() {
-        System.out.println(test + ": " + compared + " answers compared, " + wrong + " wrong");
+        endSentence();
+        String told = sentences == 0 ? ": " : ": " + sentences + " sentences, ";
+        System.out.println(test + told + compared + " answers compared, " + wrong + " wrong");
         if (wrong != 0 || compared == 0) {
             System.exit(1);
         }

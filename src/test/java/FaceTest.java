@@ -17,9 +17,9 @@ public final class FaceTest {
         + "ERR_NOT_FORMULA -7 ERR_FREE_VAR -8 ERR_TOO_BIG -9 MAX_ATOMS 4 MAX_RELATIONS 4 MAX_TOKENS 32 MAX_VARS 3 "
         + "MAX_FREE 12";
     private static final String METHODS = "int add(int, int);int arityOf(int);int atoms();"
-        + "int bound(int, int, int, int);int boundOf(int, int, int);int declare(int, int);int depth();int freeCount();int has(int, int, int);"
-        + "int instanceSize(int);int solve();int stackEntry(int);int status();int token(int);int tokenCount();"
-        + "void clearFormula();";
+        + "int bound(int, int, int, int);int boundOf(int, int, int);int declare(int, int);int depth();int freeCount();"
+        + "int has(int, int, int);int instanceSize(int);int solve();int stackEntry(int);int status();"
+        + "int token(int);int tokenCount();void clearFormula();";
 
     public static void main(String[] args) throws IllegalAccessException {
         checkClass();
