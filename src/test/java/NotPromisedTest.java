@@ -7,8 +7,7 @@ public final class NotPromisedTest {
         + "iden in r0 one and v0 some not or r1 r1 eq implies r1 no not and exists0";
 
     public static void main(String[] args) {
-        checkArgLeavesNoTrace();
-        checkEveryAnswerIsExact();
+        DUE.check(NotPromisedTest::checkArgLeavesNoTrace, NotPromisedTest::checkEveryAnswerIsExact);
         DUE.end();
     }
 
@@ -17,12 +16,14 @@ public final class NotPromisedTest {
         return Character.isDigit(last) ? last - '0' : -1;
     }
 
-    private static RelationFinder fed(int ignored) {
+    /** Also adds to the story all that the getters tell after each token. */
+    private static RelationFinder fed(int ignored, StringBuilder story) {
         RelationFinder x = new RelationFinder(2, 2);
         x.declare(1, 2);
         for (String word : FORMULA.split(" ")) {
             int arg = argOf(word);
             DUE.is("add of " + word + " is accepted", x.add(Words.kindOf(word), arg < 0 ? ignored : arg) > 0, true);
+            story.append(Calls.picture(x));
         }
         return x;
     }
@@ -30,14 +31,15 @@ public final class NotPromisedTest {
     private static void checkArgLeavesNoTrace() {
         DUE.sentence("Any value of arg for kinds other than K_REL, K_VAR, K_ALL and K_EXISTS is ignored and leaves "
             + "no trace.");
-        RelationFinder plain = fed(0);
-        String unsolved = Calls.picture(plain);
+        StringBuilder plainStory = new StringBuilder();
+        RelationFinder plain = fed(0, plainStory);
         int answer = plain.solve();
         String solved = Calls.picture(plain);
         DUE.is("solve() with arg 0", answer, RelationFinder.SAT);
         for (int arg : Numbers.ALL) {
-            RelationFinder x = fed(arg);
-            DUE.is("all getters with arg " + arg, Calls.picture(x), unsolved);
+            StringBuilder story = new StringBuilder();
+            RelationFinder x = fed(arg, story);
+            DUE.is("after each token, the getters tell the same with arg " + arg, story.compareTo(plainStory), 0);
             DUE.is("solve() with arg " + arg, x.solve(), answer);
             DUE.is("all getters after solve() with arg " + arg, Calls.picture(x), solved);
         }

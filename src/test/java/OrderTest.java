@@ -3,12 +3,9 @@ public final class OrderTest {
     private static final Due DUE = new Due("OrderTest");
 
     public static void main(String[] args) {
-        checkRelationsInOrder();
-        checkUnaryInOrder();
-        checkBinaryInOrder();
-        checkOnlyFreeTuplesArePositions();
-        checkFirstDifferenceDecides();
-        checkTwelvePositions();
+        DUE.check(OrderTest::checkRelationsInOrder, OrderTest::checkUnaryInOrder, OrderTest::checkBinaryInOrder,
+            OrderTest::checkOnlyFreeTuplesArePositions, OrderTest::checkFirstDifferenceDecides,
+            OrderTest::checkTwelvePositions);
         DUE.end();
     }
 

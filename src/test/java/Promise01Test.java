@@ -3,17 +3,11 @@ public final class Promise01Test {
     private static final Due DUE = new Due("Promise01Test");
 
     public static void main(String[] args) {
-        checkAnyValues();
-        checkAtomsTooSmall();
-        checkAtomsTooLarge();
-        checkAtomsWithin();
-        checkRelationsTooSmall();
-        checkRelationsTooLarge();
-        checkRelationsWithin();
-        checkSizesNeverChange();
-        checkStartOfRelations();
-        checkStartOfFormula();
-        checkStartOfResult();
+        DUE.check(Promise01Test::checkAnyValues, Promise01Test::checkAtomsTooSmall, Promise01Test::checkAtomsTooLarge,
+            Promise01Test::checkAtomsWithin, Promise01Test::checkRelationsTooSmall,
+            Promise01Test::checkRelationsTooLarge, Promise01Test::checkRelationsWithin,
+            Promise01Test::checkSizesNeverChange, Promise01Test::checkStartOfRelations,
+            Promise01Test::checkStartOfFormula, Promise01Test::checkStartOfResult);
         DUE.end();
     }
 

@@ -3,8 +3,7 @@ public final class Promise02Test {
     private static final Due DUE = new Due("Promise02Test");
 
     public static void main(String[] args) {
-        checkRange();
-        checkChangesNothing();
+        DUE.check(Promise02Test::checkRange, Promise02Test::checkChangesNothing);
         DUE.end();
     }
 
@@ -18,13 +17,6 @@ public final class Promise02Test {
 
     private static void checkChangesNothing() {
         DUE.sentence("It changes nothing. (atoms)");
-        for (RelationFinder x : Stages.all()) {
-            String before = Calls.picture(x);
-            int first = x.atoms();
-            for (int i = 0; i < 5; i++) {
-                DUE.is("atoms() again", x.atoms(), first);
-            }
-            DUE.is("all getters after atoms()", Calls.picture(x), before);
-        }
+        Trace.none(DUE, "atoms()", RelationFinder::atoms);
     }
 }

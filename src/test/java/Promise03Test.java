@@ -3,17 +3,11 @@ public final class Promise03Test {
     private static final Due DUE = new Due("Promise03Test");
 
     public static void main(String[] args) {
-        checkWrongRelation();
-        checkWrongArity();
-        checkBusyFromTheFirstToken();
-        checkNotBusyWithoutTokens();
-        checkOrder();
-        checkRefusalChangesNothing();
-        checkAccepted();
-        checkUnchangedArity();
-        checkAllTuplesAreFree();
-        checkResultIsForgotten();
-        checkOthersStay();
+        DUE.check(Promise03Test::checkWrongRelation, Promise03Test::checkWrongArity,
+            Promise03Test::checkBusyFromTheFirstToken, Promise03Test::checkNotBusyWithoutTokens,
+            Promise03Test::checkOrder, Promise03Test::checkRefusalChangesNothing, Promise03Test::checkAccepted,
+            Promise03Test::checkUnchangedArity, Promise03Test::checkAllTuplesAreFree,
+            Promise03Test::checkResultIsForgotten, Promise03Test::checkOthersStay);
         DUE.end();
     }
 

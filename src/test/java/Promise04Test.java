@@ -3,9 +3,7 @@ public final class Promise04Test {
     private static final Due DUE = new Due("Promise04Test");
 
     public static void main(String[] args) {
-        checkArity();
-        checkOutOfRange();
-        checkChangesNothing();
+        DUE.check(Promise04Test::checkArity, Promise04Test::checkOutOfRange, Promise04Test::checkChangesNothing);
         DUE.end();
     }
 
@@ -34,13 +32,8 @@ public final class Promise04Test {
 
     private static void checkChangesNothing() {
         DUE.sentence("It changes nothing. (arityOf)");
-        for (RelationFinder x : Stages.all()) {
-            String before = Calls.picture(x);
-            for (int rel : Numbers.ALL) {
-                int first = x.arityOf(rel);
-                DUE.is("arityOf(" + rel + ") again", x.arityOf(rel), first);
-            }
-            DUE.is("all getters after arityOf", Calls.picture(x), before);
+        for (int rel : Numbers.ALL) {
+            Trace.none(DUE, "arityOf(" + rel + ")", x -> x.arityOf(rel));
         }
     }
 }

@@ -2,19 +2,18 @@
 public final class Promise05Test {
     private static final Due DUE = new Due("Promise05Test");
 
+    // What Stages.fed("r0 r1 v2") has.
+    private static final int[][][] MODES = {{{1}, {0}, {2}}, {{0, 0, 2}, {0, 0, 0}, {0, 1, 0}}};
+    private static final int[] TOKENS = {16, 17, 34, -1};
+    private static final int[] ENTRIES = {1, 2, 17, -1};
+
     public static void main(String[] args) {
-        checkWrongRelation();
-        checkWrongFirstAtom();
-        checkWrongSecondOfUnary();
-        checkWrongSecondOfBinary();
-        checkWrongMode();
-        checkSeveralWrong();
-        checkRefusalChangesNothing();
-        checkAcceptedAtAnyTime();
-        checkModeIsSet();
-        checkResultIsForgotten();
-        checkAnswer();
-        checkOthersStay();
+        DUE.check(Promise05Test::checkWrongRelation, Promise05Test::checkWrongFirstAtom,
+            Promise05Test::checkWrongSecondOfUnary, Promise05Test::checkWrongSecondOfBinary,
+            Promise05Test::checkWrongMode, Promise05Test::checkSeveralWrong,
+            Promise05Test::checkRefusalChangesNothing, Promise05Test::checkAcceptedAtAnyTime,
+            Promise05Test::checkModeIsSet, Promise05Test::checkResultIsForgotten, Promise05Test::checkAnswer,
+            Promise05Test::checkOthersStay);
         DUE.end();
     }
 
@@ -236,22 +235,22 @@ public final class Promise05Test {
         }
     }
 
+    /** All stays but the one tuple. */
     private static void checkRest(RelationFinder x, int rel, int a, int b) {
-        RelationFinder fresh = Stages.fed("r0 r1 v2");
         for (int otherRel = 0; otherRel < 2; otherRel++) {
             DUE.is("arityOf(" + otherRel + ")", x.arityOf(otherRel), 1 + otherRel);
             for (int otherA = 0; otherA < 3; otherA++) {
-                for (int otherB = 0; otherB < 3; otherB++) {
+                for (int otherB = 0; otherB < MODES[otherRel][otherA].length; otherB++) {
                     if (otherRel != rel || otherA != a || otherB != b) {
                         DUE.is("boundOf(" + otherRel + ", " + otherA + ", " + otherB + ")",
-                            x.boundOf(otherRel, otherA, otherB), fresh.boundOf(otherRel, otherA, otherB));
+                            x.boundOf(otherRel, otherA, otherB), MODES[otherRel][otherA][otherB]);
                     }
                 }
             }
         }
         for (int i = 0; i <= 3; i++) {
-            DUE.is("token(" + i + ")", x.token(i), fresh.token(i));
-            DUE.is("stackEntry(" + i + ")", x.stackEntry(i), fresh.stackEntry(i));
+            DUE.is("token(" + i + ")", x.token(i), TOKENS[i]);
+            DUE.is("stackEntry(" + i + ")", x.stackEntry(i), ENTRIES[i]);
         }
     }
 }

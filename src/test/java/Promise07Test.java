@@ -3,11 +3,8 @@ public final class Promise07Test {
     private static final Due DUE = new Due("Promise07Test");
 
     public static void main(String[] args) {
-        checkAllFree();
-        checkNoneFree();
-        checkOnlyFreeIsCounted();
-        checkOnlyOwnRelations();
-        checkChangesNothing();
+        DUE.check(Promise07Test::checkAllFree, Promise07Test::checkNoneFree, Promise07Test::checkOnlyFreeIsCounted,
+            Promise07Test::checkOnlyOwnRelations, Promise07Test::checkChangesNothing);
         DUE.end();
     }
 
@@ -75,13 +72,6 @@ public final class Promise07Test {
 
     private static void checkChangesNothing() {
         DUE.sentence("It changes nothing. (freeCount)");
-        for (RelationFinder x : Stages.all()) {
-            String before = Calls.picture(x);
-            int first = x.freeCount();
-            for (int i = 0; i < 5; i++) {
-                DUE.is("freeCount() again", x.freeCount(), first);
-            }
-            DUE.is("all getters after freeCount()", Calls.picture(x), before);
-        }
+        Trace.none(DUE, "freeCount()", RelationFinder::freeCount);
     }
 }

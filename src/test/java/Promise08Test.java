@@ -5,32 +5,17 @@ public final class Promise08Test {
     private static final String TYPES = "FUB";
 
     public static void main(String[] args) {
-        checkFull();
-        checkNotYetFull();
-        checkWrongKind();
-        checkWrongRelation();
-        checkWrongVariable();
-        checkIgnoredArg();
-        checkShortStack();
-        checkFormulaForExpression();
-        checkExpressionForFormula();
-        checkUnequalArities();
-        checkJoinOfUnaries();
-        checkProductOfBinary();
-        checkUnaryToTurn();
-        checkEveryOtherOperandIsAllowed();
-        checkFullComesFirst();
-        checkKindComesSecond();
-        checkArgComesThird();
-        checkStackComesFourth();
-        checkRefusalChangesNothing();
-        checkStoredArg();
-        checkPopsAndPushes();
-        checkArityOfThisMoment();
-        checkResultIsForgotten();
-        checkAnswer();
-        checkBoundsStay();
-        checkQuantifierClearsItsBit();
+        DUE.check(Promise08Test::checkFull, Promise08Test::checkNotYetFull, Promise08Test::checkWrongKind,
+            Promise08Test::checkWrongRelation, Promise08Test::checkWrongVariable, Promise08Test::checkIgnoredArg,
+            Promise08Test::checkShortStack, Promise08Test::checkFormulaForExpression,
+            Promise08Test::checkExpressionForFormula, Promise08Test::checkUnequalArities,
+            Promise08Test::checkJoinOfUnaries, Promise08Test::checkProductOfBinary, Promise08Test::checkUnaryToTurn,
+            Promise08Test::checkEveryOtherOperandIsAllowed, Promise08Test::checkFullComesFirst,
+            Promise08Test::checkKindComesSecond, Promise08Test::checkArgComesThird,
+            Promise08Test::checkStackComesFourth, Promise08Test::checkRefusalChangesNothing,
+            Promise08Test::checkStoredArg, Promise08Test::checkPopsAndPushes, Promise08Test::checkArityOfThisMoment,
+            Promise08Test::checkResultIsForgotten, Promise08Test::checkAnswer, Promise08Test::checkBoundsStay,
+            Promise08Test::checkQuantifierClearsItsBit);
         DUE.end();
     }
 

@@ -3,11 +3,8 @@ public final class Promise09Test {
     private static final Due DUE = new Due("Promise09Test");
 
     public static void main(String[] args) {
-        checkRemovesAll();
-        checkNoTraceLater();
-        checkWithoutTokens();
-        checkResultIsForgotten();
-        checkBoundsStay();
+        DUE.check(Promise09Test::checkRemovesAll, Promise09Test::checkNoTraceLater, Promise09Test::checkWithoutTokens,
+            Promise09Test::checkResultIsForgotten, Promise09Test::checkBoundsStay);
         DUE.end();
     }
 

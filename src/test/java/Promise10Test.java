@@ -3,13 +3,9 @@ public final class Promise10Test {
     private static final Due DUE = new Due("Promise10Test");
 
     public static void main(String[] args) {
-        checkCount();
-        checkCountSinceClear();
-        checkCountOfAcceptedAlone();
-        checkToken();
-        checkOutOfRange();
-        checkOldTokens();
-        checkChangesNothing();
+        DUE.check(Promise10Test::checkCount, Promise10Test::checkCountSinceClear,
+            Promise10Test::checkCountOfAcceptedAlone, Promise10Test::checkToken, Promise10Test::checkOutOfRange,
+            Promise10Test::checkOldTokens, Promise10Test::checkChangesNothing);
         DUE.end();
     }
 
@@ -101,15 +97,9 @@ public final class Promise10Test {
 
     private static void checkChangesNothing() {
         DUE.sentence("Neither changes anything. (tokenCount and token)");
-        for (RelationFinder x : Stages.all()) {
-            String before = Calls.picture(x);
-            int count = x.tokenCount();
-            for (int i : Numbers.ALL) {
-                int first = x.token(i);
-                DUE.is("token(" + i + ") again", x.token(i), first);
-                DUE.is("tokenCount() again", x.tokenCount(), count);
-            }
-            DUE.is("all getters", Calls.picture(x), before);
+        Trace.none(DUE, "tokenCount()", RelationFinder::tokenCount);
+        for (int i : Numbers.ALL) {
+            Trace.none(DUE, "token(" + i + ")", x -> x.token(i));
         }
     }
 }

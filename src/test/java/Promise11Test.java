@@ -3,12 +3,8 @@ public final class Promise11Test {
     private static final Due DUE = new Due("Promise11Test");
 
     public static void main(String[] args) {
-        checkDepth();
-        checkTypesAndMasks();
-        checkBottomAndTop();
-        checkOutOfRange();
-        checkPoppedEntries();
-        checkChangesNothing();
+        DUE.check(Promise11Test::checkDepth, Promise11Test::checkTypesAndMasks, Promise11Test::checkBottomAndTop,
+            Promise11Test::checkOutOfRange, Promise11Test::checkPoppedEntries, Promise11Test::checkChangesNothing);
         DUE.end();
     }
 
@@ -96,15 +92,9 @@ public final class Promise11Test {
 
     private static void checkChangesNothing() {
         DUE.sentence("Neither changes anything. (depth and stackEntry)");
-        for (RelationFinder x : Stages.all()) {
-            String before = Calls.picture(x);
-            int depth = x.depth();
-            for (int i : Numbers.ALL) {
-                int first = x.stackEntry(i);
-                DUE.is("stackEntry(" + i + ") again", x.stackEntry(i), first);
-                DUE.is("depth() again", x.depth(), depth);
-            }
-            DUE.is("all getters", Calls.picture(x), before);
+        Trace.none(DUE, "depth()", RelationFinder::depth);
+        for (int i : Numbers.ALL) {
+            Trace.none(DUE, "stackEntry(" + i + ")", x -> x.stackEntry(i));
         }
     }
 }

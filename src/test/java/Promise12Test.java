@@ -2,25 +2,20 @@
 public final class Promise12Test {
     private static final Due DUE = new Due("Promise12Test");
 
+    private static final String[] FORMULAS = {
+        "r0 one r1 some and", "r0 r1 join r0 eq r0 some and", "r1 closure iden inter no r1 some and",
+        "v0 r1 join some all0", "v0 v1 product r1 in v1 r0 in and exists1 all0", "r1 r1 transpose eq r1 one not and",
+        "r1 iden diff some r0 univ eq and", "r0 r0 product r1 eq", "r0 some r0 no and", "r1 one r1 r1 join no not and"
+    };
+
     public static void main(String[] args) {
-        checkNotOneEntry();
-        checkNotFormula();
-        checkFreeVariable();
-        checkTooBig();
-        checkOrder();
-        checkRefusalChangesNothing();
-        checkSat();
-        checkUnsat();
-        checkRequiredAndExcluded();
-        checkBoundsOfThisSolve();
-        checkInstanceIsModel();
-        checkNoModelPrecedes();
-        checkUnsatMeansNone();
-        checkNoFreeTuple();
-        checkAllFreeTuples();
-        checkMostTokens();
-        checkSolvingAgain();
-        checkNothingElseChanges();
+        DUE.check(Promise12Test::checkNotOneEntry, Promise12Test::checkNotFormula, Promise12Test::checkFreeVariable,
+            Promise12Test::checkTooBig, Promise12Test::checkOrder, Promise12Test::checkRefusalChangesNothing,
+            Promise12Test::checkSat, Promise12Test::checkUnsat, Promise12Test::checkRequiredAndExcluded,
+            Promise12Test::checkBoundsOfThisSolve, Promise12Test::checkInstanceIsModel,
+            Promise12Test::checkNoModelPrecedes, Promise12Test::checkUnsatMeansNone, Promise12Test::checkNoFreeTuple,
+            Promise12Test::checkAllFreeTuples, Promise12Test::checkMostTokens, Promise12Test::checkSolvingAgain,
+            Promise12Test::checkNothingElseChanges);
         DUE.end();
     }
 
@@ -188,12 +183,6 @@ public final class Promise12Test {
         }
     }
 
-    private static final String[] FORMULAS = {
-        "r0 one r1 some and", "r0 r1 join r0 eq r0 some and", "r1 closure iden inter no r1 some and",
-        "v0 r1 join some all0", "v0 v1 product r1 in v1 r0 in and exists1 all0", "r1 r1 transpose eq r1 one not and",
-        "r1 iden diff some r0 univ eq and", "r0 r0 product r1 eq", "r0 some r0 no and", "r1 one r1 r1 join no not and"
-    };
-
     /** r0 is unary and r1 binary over two atoms: tuple i of r0 then r1 is wanted where bit i is set. */
     private static void fix(RelationFinder x, int wanted) {
         for (int i = 0; i < 6; i++) {
@@ -301,12 +290,12 @@ public final class Promise12Test {
         DUE.is("solve() of none", Words.solve(x, allFull + " r2 no and"), RelationFinder.UNSAT);
     }
 
-    /** 16 entries on top of each other, and three variables. */
+    /** 15 entries on top of each other, of which the lowest alone holds something; then three variables. */
     private static void checkMostTokens() {
         DUE.sentence("[..] the complete formula (of MAX_TOKENS tokens)");
-        RelationFinder x = new RelationFinder(2, 1);
-        String deep = "r0 ".repeat(16) + "union ".repeat(15) + "some";
-        Words.feed(x, deep);
+        RelationFinder x = new RelationFinder(2, 2);
+        Words.boundAll(x, 1, RelationFinder.EXCLUDE);
+        Words.feed(x, "r0 " + "r1 ".repeat(14) + "union ".repeat(14) + "some not not");
         DUE.is("tokenCount()", x.tokenCount(), 32);
         DUE.is("solve()", x.solve(), RelationFinder.SAT);
         DUE.is("r0", Calls.tuples(x, 0), "1");

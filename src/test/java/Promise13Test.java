@@ -3,8 +3,7 @@ public final class Promise13Test {
     private static final Due DUE = new Due("Promise13Test");
 
     public static void main(String[] args) {
-        checkRules();
-        checkChangesNothing();
+        DUE.check(Promise13Test::checkRules, Promise13Test::checkChangesNothing);
         DUE.end();
     }
 
@@ -45,13 +44,6 @@ public final class Promise13Test {
 
     private static void checkChangesNothing() {
         DUE.sentence("It changes nothing. (status)");
-        for (RelationFinder x : Stages.all()) {
-            String before = Calls.picture(x);
-            int first = x.status();
-            for (int i = 0; i < 5; i++) {
-                DUE.is("status() again", x.status(), first);
-            }
-            DUE.is("all getters after status()", Calls.picture(x), before);
-        }
+        Trace.none(DUE, "status()", RelationFinder::status);
     }
 }

@@ -3,11 +3,9 @@ public final class Promise15Test {
     private static final Due DUE = new Due("Promise15Test");
 
     public static void main(String[] args) {
-        checkEverySize();
-        checkChosenTuples();
-        checkWithoutInstance();
-        checkWrongRelation();
-        checkChangesNothing();
+        DUE.check(Promise15Test::checkEverySize, Promise15Test::checkChosenTuples,
+            Promise15Test::checkWithoutInstance, Promise15Test::checkWrongRelation,
+            Promise15Test::checkChangesNothing);
         DUE.end();
     }
 
@@ -78,13 +76,8 @@ public final class Promise15Test {
 
     private static void checkChangesNothing() {
         DUE.sentence("It changes nothing. (instanceSize)");
-        for (RelationFinder x : Stages.all()) {
-            String before = Calls.picture(x);
-            for (int rel : Numbers.ALL) {
-                int first = x.instanceSize(rel);
-                DUE.is("instanceSize(" + rel + ") again", x.instanceSize(rel), first);
-            }
-            DUE.is("all getters after instanceSize", Calls.picture(x), before);
+        for (int rel : Numbers.ALL) {
+            Trace.none(DUE, "instanceSize(" + rel + ")", x -> x.instanceSize(rel));
         }
     }
 }

@@ -17,13 +17,20 @@ public final class ResultStateTest {
             + "add r0 no;solve;bound 0 1 0 1;solve"
     };
 
+    // Formulas of every kind, in which no token may be another one.
+    private static final String[] FORMULAS = {
+        "r0 one not r0 some and", "r0 r1 join r0 eq r0 some and", "r1 closure iden inter no r1 some and",
+        "v0 r1 join some all0", "v0 v1 product r1 in v1 r0 in and exists1 all0", "r1 r1 transpose diff one",
+        "r1 iden diff some r0 univ eq and", "r0 some r0 no and", "r1 one r1 r0 join no not and",
+        "r0 univ inter r1 r0 join union one r0 no implies not", "v2 r1 join v1 eq exists1 r1 r1 join r1 eq or all2",
+        "r0 r0 product r1 in r0 one not or not"
+    };
+
     public static void main(String[] args) {
-        checkStatusValues();
-        checkAcceptedCallsForget();
-        checkEvenIfNothingElseChanged();
-        checkRefusedCallsChangeNothing();
-        checkRefusedCallsLeaveNoTrace();
-        checkGettersChangeNothing();
+        DUE.check(ResultStateTest::checkStatusValues, ResultStateTest::checkAcceptedCallsForget,
+            ResultStateTest::checkEvenIfNothingElseChanged, ResultStateTest::checkRefusedCallsChangeNothing,
+            ResultStateTest::checkRefusedCallsLeaveNoTrace, ResultStateTest::checkRefusedCallsWithinFormulas,
+            ResultStateTest::checkGettersChangeNothing);
         DUE.end();
     }
 
@@ -122,6 +129,22 @@ public final class ResultStateTest {
         }
     }
 
+    private static void checkRefusedCallsWithinFormulas() {
+        DUE.sentence("A REFUSED call changes nothing at all. (between the tokens of a formula)");
+        for (String formula : FORMULAS) {
+            RelationFinder x = new RelationFinder(2, 2);
+            RelationFinder twin = new RelationFinder(2, 2);
+            DUE.is("declare", x.declare(1, 2), twin.declare(1, 2));
+            for (String word : formula.split(" ")) {
+                Refusals.makeAll(DUE, x, 2);
+                DUE.is(word, Words.feed(x, word), Words.feed(twin, word));
+            }
+            Refusals.makeAll(DUE, x, 2);
+            DUE.is("solve() of " + formula, x.solve(), twin.solve());
+            DUE.is("all getters after it", Calls.picture(x), Calls.picture(twin));
+        }
+    }
+
     private static int call(RelationFinder x, String call) {
         String[] words = call.split(" ");
         switch (words[0]) {
@@ -145,18 +168,7 @@ public final class ResultStateTest {
 
     private static void checkGettersChangeNothing() {
         DUE.sentence("Getters change nothing.");
-        for (String run : RUNS) {
-            RelationFinder x = new RelationFinder(3, 2);
-            RelationFinder twin = new RelationFinder(3, 2);
-            for (String call : run.split(";")) {
-                askAll(x);
-                DUE.is(call, call(x, call), call(twin, call));
-                String once = Calls.picture(x);
-                askAll(x);
-                DUE.is("all getters again after " + call, Calls.picture(x), once);
-                DUE.is("all getters after " + call, once, Calls.picture(twin));
-            }
-        }
+        Trace.none(DUE, "all getters", ResultStateTest::askAll);
     }
 
     private static void askAll(RelationFinder x) {

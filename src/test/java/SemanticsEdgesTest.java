@@ -3,36 +3,18 @@ public final class SemanticsEdgesTest {
     private static final Due DUE = new Due("SemanticsEdgesTest");
 
     public static void main(String[] args) {
-        checkRelation();
-        checkVariable();
-        checkUniverse();
-        checkIdentity();
-        checkUnion();
-        checkIntersection();
-        checkDifference();
-        checkImage();
-        checkPreimage();
-        checkComposition();
-        checkProduct();
-        checkTranspose();
-        checkClosure();
-        checkIn();
-        checkEqual();
-        checkSome();
-        checkNo();
-        checkOne();
-        checkNot();
-        checkAnd();
-        checkOr();
-        checkImplies();
-        checkAll();
-        checkExists();
-        checkMasks();
-        checkJoinOfUnaries();
-        checkClosureIsNotReflexive();
-        checkInnerBindingWins();
-        checkComplete();
-        checkEnvironmentIsIrrelevant();
+        DUE.check(SemanticsEdgesTest::checkRelation, SemanticsEdgesTest::checkVariable,
+            SemanticsEdgesTest::checkUniverse, SemanticsEdgesTest::checkIdentity, SemanticsEdgesTest::checkUnion,
+            SemanticsEdgesTest::checkIntersection, SemanticsEdgesTest::checkDifference,
+            SemanticsEdgesTest::checkImage, SemanticsEdgesTest::checkPreimage, SemanticsEdgesTest::checkComposition,
+            SemanticsEdgesTest::checkProduct, SemanticsEdgesTest::checkTranspose, SemanticsEdgesTest::checkClosure,
+            SemanticsEdgesTest::checkIn, SemanticsEdgesTest::checkEqual, SemanticsEdgesTest::checkSome,
+            SemanticsEdgesTest::checkNo, SemanticsEdgesTest::checkOne, SemanticsEdgesTest::checkNot,
+            SemanticsEdgesTest::checkAnd, SemanticsEdgesTest::checkOr, SemanticsEdgesTest::checkImplies,
+            SemanticsEdgesTest::checkAll, SemanticsEdgesTest::checkExists, SemanticsEdgesTest::checkMasks,
+            SemanticsEdgesTest::checkJoinOfUnaries, SemanticsEdgesTest::checkClosureIsNotReflexive,
+            SemanticsEdgesTest::checkInnerBindingWins, SemanticsEdgesTest::checkComplete,
+            SemanticsEdgesTest::checkEnvironmentIsIrrelevant);
         DUE.end();
     }
 
@@ -64,8 +46,15 @@ public final class SemanticsEdgesTest {
                 value(n, relations("1:", "2:", full), "r2", full);
             }
         }
-        value(4, relations("2: 03 30"), "r0", "2: 03 30");
-        value(3, relations("2: 02 20"), "r0", "2: 02 20");
+        for (int a = 0; a < 4; a++) {
+            for (int b = 0; b < 4; b++) {
+                RelationFinder x = Words.world(4, "2: " + a + b, "1: " + a, "1: " + b);
+                truth(x, "r0 one", true);
+                truth(x, "r1 r2 product r0 eq", true);
+                truth(x, "r1 one r2 one and", true);
+            }
+        }
+        truth(Words.world(4, Words.full(4, 2), Words.full(4, 1)), "univ univ product r0 eq univ r1 eq and", true);
     }
 
     private static void checkVariable() {

@@ -1,5 +1,6 @@
 import java.util.ArrayList;
 import java.util.List;
+import java.util.function.Supplier;
 
 /** Objects in every stage that the document tells apart. */
 final class Stages {
@@ -46,26 +47,30 @@ final class Stages {
         return fed("univ" + " v2".repeat(31));
     }
 
+    private static RelationFinder fullOfTokensSolved() {
+        RelationFinder x = fullOfTokens();
+        x.solve();
+        return x;
+    }
+
+    private static RelationFinder tooBig() {
+        RelationFinder x = new RelationFinder(4, 4);
+        Words.feed(x, "r3 some");
+        return x;
+    }
+
+    static List<Supplier<RelationFinder>> makers() {
+        return List.of(() -> new RelationFinder(1, 1), () -> new RelationFinder(4, 4), Stages::bounded,
+            () -> fed("univ"), () -> fed("r1"), () -> fed("v1 some"), () -> fed("v2 r0 in all2 not"),
+            () -> fed("univ some univ some"), () -> fed("r0 r1 v2 some"), Stages::sat, Stages::unsat,
+            Stages::fullOfTokens, Stages::fullOfTokensSolved, Stages::fullStack, Stages::tooBig);
+    }
+
     static List<RelationFinder> all() {
         List<RelationFinder> stages = new ArrayList<>();
-        stages.add(new RelationFinder(1, 1));
-        stages.add(new RelationFinder(4, 4));
-        stages.add(bounded());
-        stages.add(fed("univ"));
-        stages.add(fed("r1"));
-        stages.add(fed("v1 some"));
-        stages.add(fed("univ some univ some"));
-        stages.add(fed("r0 r1 v2 some"));
-        stages.add(sat());
-        stages.add(unsat());
-        stages.add(fullOfTokens());
-        RelationFinder solved = fullOfTokens();
-        solved.solve();
-        stages.add(solved);
-        stages.add(fullStack());
-        RelationFinder tooBig = new RelationFinder(4, 4);
-        Words.feed(tooBig, "r3 some");
-        stages.add(tooBig);
+        for (Supplier<RelationFinder> maker : makers()) {
+            stages.add(maker.get());
+        }
         return stages;
     }
 }

@@ -3,14 +3,9 @@ public final class WhatItIsTest {
     private static final Due DUE = new Due("WhatItIsTest");
 
     public static void main(String[] args) {
-        checkUniverse();
-        checkUnaryTuples();
-        checkBinaryTuples();
-        checkRespectsBounds();
-        checkLeftAndRight();
-        checkExaminedWhenFed();
-        checkVariableMask();
-        checkSolvingReports();
+        DUE.check(WhatItIsTest::checkUniverse, WhatItIsTest::checkUnaryTuples, WhatItIsTest::checkBinaryTuples,
+            WhatItIsTest::checkRespectsBounds, WhatItIsTest::checkLeftAndRight, WhatItIsTest::checkExaminedWhenFed,
+            WhatItIsTest::checkVariableMask, WhatItIsTest::checkSolvingReports);
         DUE.end();
     }
 
@@ -118,6 +113,11 @@ public final class WhatItIsTest {
         DUE.is("free in one part, bound in another", x.stackEntry(0), 4 * 5);
         Words.feed(x, "all0 exists2");
         DUE.is("none free", x.stackEntry(0), 0);
+        RelationFinder y = new RelationFinder(2, 1);
+        Words.feed(y, "v0 v1 union v2 union some all0");
+        DUE.is("1 and 2 free", y.stackEntry(0), 4 * 6);
+        Words.feed(y, "exists1");
+        DUE.is("2 free", y.stackEntry(0), 4 * 4);
     }
 
     private static void checkSolvingReports() {
